@@ -760,7 +760,7 @@ public final class PowerClasses {
         private boolean readSum(int open) {
             if (!readProduct(open)) return false;
             copyRow(products[open], sums[open]);
-            while (letter() == '+' || letter() == '-') {
+            for (int joined = 0; joined < LONGEST_TAPE && isSign(letter()); joined++) {
                 boolean adding = letter() == '+';
                 place++;
                 if (!readProduct(open) || !joinProduct(adding, open)) return false;
@@ -776,7 +776,7 @@ public final class PowerClasses {
         private boolean readProduct(int open) {
             if (!readPart(open)) return false;
             copyRow(parts[open], products[open]);
-            while (letter() == '*') {
+            for (int joined = 0; joined < LONGEST_TAPE && letter() == '*'; joined++) {
                 place++;
                 if (!readPart(open) || !reckoner.multiply(products[open], parts[open], products[open])) return false;
             }
@@ -829,6 +829,10 @@ public final class PowerClasses {
 
         private int letter() {
             return place < length ? tape[place] : END;
+        }
+
+        private static boolean isSign(int letter) {
+            return letter == '+' || letter == '-';
         }
 
         private static boolean isFigure(int letter) {

@@ -31,6 +31,9 @@ final class Model {
     private int[] image;
     private BigInteger[][] imageShelves;
     private int[][][] timesNumbers;
+    /** Kept only to be quick, and the prime that they are of. */
+    private final int[][] powers = new int[61][61];
+    private int powersOf;
 
     private static BigInteger[][] zeros(int e) {
         BigInteger[][] rows = new BigInteger[4][e];
@@ -68,12 +71,25 @@ final class Model {
     }
 
     private int toThe(int x, int k) {
-        return BigInteger.valueOf(x).modPow(BigInteger.valueOf(k), BigInteger.valueOf(p)).intValue();
+        if (powersOf != p) {
+            powersOf = p;
+            for (int y = 0; y < p; y++) {
+                for (int n = 0; n < 61; n++) powers[y][n] = BigInteger.valueOf(y).modPow(BigInteger.valueOf(n), BigInteger.valueOf(p)).intValue();
+            }
+        }
+        return powers[x][k];
     }
 
     private int logOf(int x) {
         for (int k = 0; k < p - 1; k++) if (toThe(g, k) == x) return k;
         throw new IllegalStateException();
+    }
+
+    /** How often each is met as a sum of one of class i and one of class j. */
+    private int[] sumsMet(int i, int j) {
+        int[] met = new int[p];
+        for (int x : members(i)) for (int y : members(j)) met[(x + y) % p]++;
+        return met;
     }
 
     private List<Integer> members(int i) {
@@ -126,10 +142,10 @@ final class Model {
 
     long meets(int i, int j, int h) {
         if (noClass(i) || noClass(j) || noClass(h)) return NONE;
-        int many = 0;
-        for (int x : members(i)) for (int y : members(j)) if (members(h).contains((x + y) % p)) many++;
-        if (many % ((p - 1) / e) != 0) throw new IllegalStateException();
-        return many / ((p - 1) / e);
+        int[] met = sumsMet(i, j);
+        int many = met[members(h).get(0)];
+        for (int z : members(h)) if (met[z] != many) throw new IllegalStateException();
+        return many;
     }
 
     long times(int i, int j, int h) {

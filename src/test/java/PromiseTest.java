@@ -243,6 +243,12 @@ public final class PromiseTest {
         }
         x.field(7, 2);
         due("beside 7", x.beside(0, 0) * 1000 + x.beside(0, 1) * 100 + x.beside(1, 0) * 10 + x.beside(1, 1), 1211);
+        x.field(61, 1);
+        due("beside, one class", x.beside(0, 0), 59);
+        x.field(13, 3);
+        due("counted anew", x.beside(0, 0), 0);
+        x.use(6);
+        due("counted anew", x.beside(0, 0), 0);
 
         part("promises 10, 11: meets, times");
         x.field(7, 2);
@@ -286,6 +292,12 @@ public final class PromiseTest {
         due("around 1 0", x.around(1, 0), 2);
         due("around 0 1", x.around(0, 1), 2);
         due("around 1 1", x.around(1, 1), 3);
+        x.field(61, 12);
+        for (int i = 0; i < 12; i++) {
+            due("around " + i, x.around(i, 0), i == 6 ? 4 : 5);
+            due("around " + i, x.around(i, 1), i == 0 ? 4 : 5);
+        }
+        x.field(7, 2);
         for (int i : new int[] {-1, 2, FAR, DEEP}) {
             due("around " + i, x.around(i, 0), NONE);
             due("around, what " + i, x.around(0, i), NONE);
@@ -647,6 +659,12 @@ public final class PromiseTest {
         due("0 at last", x.trace(0), 0);
         setRow(0, MOST, 0, 0);
         due("most", x.trace(0), -MOST);
+        setRow(0, -MOST, 0, 0);
+        due("most turned about", x.trace(0), MOST);
+        x.field(61, 12);
+        x.whole(0, 3);
+        due("twelve", x.trace(0), 36);
+        x.field(13, 3);
         for (int i : new int[] {-1, 4, FAR, DEEP}) due("trace " + i, x.trace(i), VOID);
         due("no trouble", x.count(1), 0);
         setRow(0, 0, LEAST, 0);
@@ -691,6 +709,12 @@ public final class PromiseTest {
         due("2", x.alike(0, 2), 2);
         due("back", x.alike(1, 0), 2);
         due("not", x.alike(0, 3), NOT);
+        for (int i = 0; i < 3; i++) {
+            setRow(3, 5, 6, 7);
+            x.put(3, i, 4);
+            due("one differs", x.alike(0, 3), NOT);
+            due("one differs", x.alike(3, 0), NOT);
+        }
         setRow(0, 5, 5, 5);
         due("least", x.alike(0, 0), 0);
         for (int i : new int[] {-1, 4, FAR, DEEP}) {
@@ -884,6 +908,9 @@ public final class PromiseTest {
         x.lay(2, 3, 8);
         due("all 0 again", x.list(2, 15), 1);
         due("all 0 again", x.get(2, 14) + x.get(2, 3), 0);
+        for (int i = 0; i < 15; i++) x.lay(2, i, 7);
+        x.list(2, 15);
+        for (int i = 0; i < 15; i++) due("each 0 again", x.get(2, i), 0);
         due("missing again", x.list(2, -1), 1);
         due("missing again", x.get(2, 0), VOID);
         due("missing already", x.list(2, -1), 1);
@@ -1047,6 +1074,14 @@ public final class PromiseTest {
         due("shelves", x.count(3), 4);
         x.whole(2, 0);
         due("shelves", x.count(3), 3);
+        x.whole(2, 7);
+        setRow(2, 0, 0, 0);
+        due("shelves", x.count(3), 3);
+        for (int i = 0; i < 3; i++) {
+            x.put(2, i, 1);
+            due("one place", x.count(3), 4);
+            x.put(2, i, 0);
+        }
         for (int what : new int[] {-1, 4, FAR, DEEP}) due("count " + what, x.count(what), NONE);
     }
 }

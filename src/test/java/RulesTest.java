@@ -149,6 +149,22 @@ public final class RulesTest {
             return super.visitMemberSelect(tree, none);
         }
 
+        /** Rule 9: a counter against a bound, alone or ahead of what else the loop asks. */
+        @Override public Void visitForLoop(ForLoopTree tree, Void none) {
+            String counter = "";
+            if (tree.getInitializer().size() == 1 && tree.getInitializer().get(0) instanceof VariableTree) {
+                counter = ((VariableTree) tree.getInitializer().get(0)).getName().toString();
+            }
+            String asked = String.valueOf(tree.getCondition());
+            String step = tree.getUpdate().toString();
+            boolean rises = asked.matches("\\(?" + counter + "( \\+ 1)? <=? [^&|?]*( && .*)?") && step.matches(counter + "(\\+\\+| \\+= [0-9]+);?");
+            boolean falls = asked.matches("\\(?" + counter + " >=? [^&|?]*( && .*)?") && step.equals(counter + "--;");
+            checks.holds(at(tree) + ": no end is seen of the loop over " + asked + " by " + step, !counter.isEmpty() && (rises || falls));
+            return super.visitForLoop(tree, none);
+        }
+
+        @Override public Void visitWhileLoop(WhileLoopTree tree, Void none) { never(tree); return null; }
+        @Override public Void visitDoWhileLoop(DoWhileLoopTree tree, Void none) { never(tree); return null; }
         @Override public Void visitLambdaExpression(LambdaExpressionTree tree, Void none) { never(tree); return null; }
         @Override public Void visitMemberReference(MemberReferenceTree tree, Void none) { never(tree); return null; }
         @Override public Void visitTry(TryTree tree, Void none) { never(tree); return null; }
